@@ -756,6 +756,9 @@ public final class OutcropAges {
 
         /** What is left of x to z by y: the pair's bit, if less is left now. */
         private int narrow(int x, int y, int z) {
+            if (at(y, z) == ALL) {
+                return 0;
+            }
             int had = at(x, z);
             int has = had & algebra.compose(at(x, y), at(y, z));
             if (has == had) {
@@ -781,6 +784,8 @@ public final class OutcropAges {
         private static final int[] END_ZONE = {4, 4, 4, 4, 4, 3, 3, 3, 2, 2, 2, 1, 0};
 
         private final Net net;
+        /** What is left while an event is put, those ahead of it being there. */
+        private final Net[] stages = new Net[MOST_EVENTS];
         private final int[] begins = new int[MOST_EVENTS];
         private final int[] ends = new int[MOST_EVENTS];
         private final int[] chosen = new int[MOST_PAIRS];
@@ -794,6 +799,9 @@ public final class OutcropAges {
 
         Line(Net net, int most) {
             this.net = net;
+            for (int y = 0; y < MOST_EVENTS; y++) {
+                stages[y] = y < 2 ? net : new Net(net.algebra);
+            }
             found = new long[Math.max(1, most)];
         }
 
@@ -823,9 +831,9 @@ public final class OutcropAges {
             }
             if (x >= y) {
                 place(y, b1, b2, e1, e2);
-                return search(y + 1, 0, 1, LAST - 1, 1, LAST - 1);
+                return leavesRoom(y) && search(y + 1, 0, 1, LAST - 1, 1, LAST - 1);
             }
-            int set = net.at(x, y);
+            int set = stages[y].at(x, y);
             for (int r = 0; r < RELATIONS; r++) {
                 if ((set >> r & 1) != 0) {
                     int c1 = Math.max(b1, zoneStart(x, BEGIN_ZONE[r]));
@@ -883,6 +891,27 @@ public final class OutcropAges {
                 begins[y] = (b1 + b2) / 2;
                 ends[y] = (e1 + e2) / 2;
             }
+        }
+
+        /** Closes what is left of the events behind y, now that y is there, so that few ways end in nothing. */
+        private boolean leavesRoom(int y) {
+            int following = y + 1;
+            if (y == 0 || following >= net.events || following >= MOST_EVENTS) {
+                return true;
+            }
+            Net stage = stages[following];
+            stage.copyFrom(stages[y]);
+            int changed = 0;
+            for (int x = 0; x < y; x++) {
+                int pair = pairOf(x, y);
+                int one = 1 << chosen[pair];
+                if (stage.at(x, y) != one) {
+                    stage.hold(x, one, y);
+                    changed |= 1 << pair;
+                }
+            }
+            stage.closeAgain(changed);
+            return !stage.barren;
         }
 
         private void write() {
