@@ -15,6 +15,7 @@ public final class OutcropAges {
     private static final int EVENTS_AT_FIRST = 3;
     private static final int MOST_EVENTS = 5;
     private static final int MOST_PAIRS = 10;
+    private static final int ALL_PAIRS = 1023;
     private static final int MOST_OBSERVATIONS = 8;
     private static final int MOST_LETTERS = 160;
     private static final int LAST_LETTER = 255;
@@ -38,7 +39,6 @@ public final class OutcropAges {
     private final boolean[] kept = new boolean[IMAGES];
 
     public OutcropAges() {
-        findings.forgetAll();
     }
 
     // ---- what is told
@@ -211,7 +211,17 @@ public final class OutcropAges {
     }
 
     public int next() {
-        return findings.mostOpenPair();
+        Net really = findings.reallyNet();
+        int best = NONE;
+        int most = 1;
+        for (int pair = 0; pair < pairsOf(book.events); pair++) {
+            int open = Integer.bitCount(really.at(LOWER[pair], HIGHER[pair]));
+            if (open > most) {
+                most = open;
+                best = 10 * LOWER[pair] + HIGHER[pair];
+            }
+        }
+        return best;
     }
 
     // ---- which observation
@@ -637,19 +647,21 @@ public final class OutcropAges {
             }
         }
 
-        private int ofRow(int row, int set) {
-            return low[row * LOW_SETS + (set & LOW_SETS - 1)] | high[row * HIGH_SETS + (set >> LOW_BITS & HIGH_SETS - 1)];
+        int turn(int set) {
+            return low[TURNING * LOW_SETS + (set & LOW_SETS - 1)] | high[TURNING * HIGH_SETS + (set >> LOW_BITS & HIGH_SETS - 1)];
         }
 
-        int turn(int set) {
-            return ofRow(TURNING, set);
+        int composeOne(int r, int set) {
+            return low[r * LOW_SETS + (set & LOW_SETS - 1)] | high[r * HIGH_SETS + (set >> LOW_BITS & HIGH_SETS - 1)];
         }
 
         int compose(int first, int second) {
+            int lowPart = second & LOW_SETS - 1;
+            int highPart = second >> LOW_BITS & HIGH_SETS - 1;
             int result = 0;
             for (int r = 0; r < RELATIONS && result != ALL; r++) {
                 if ((first >> r & 1) != 0) {
-                    result |= ofRow(r, second);
+                    result |= low[r * LOW_SETS + lowPart] | high[r * HIGH_SETS + highPart];
                 }
             }
             return result;
@@ -709,20 +721,9 @@ public final class OutcropAges {
             System.arraycopy(other.sets, 0, sets, 0, sets.length);
         }
 
-        void close() {
-            int changed = 0;
-            for (int pair = 0; pair < pairsOf(events); pair++) {
-                // What is open as at first rules out nothing.
-                if (at(LOWER[pair], HIGHER[pair]) != ALL) {
-                    changed |= 1 << pair;
-                }
-            }
-            closeAgain(changed);
-        }
-
-        /** Closes a net that was closed but for the pairs (bits) that have changed since. */
-        void closeAgain(int changed) {
-            int waiting = changed;
+        /** Closes a net of which only these pairs (bits) may rule out anything of others. */
+        void close(int pairs) {
+            int waiting = pairs;
             for (int turn = 0; turn < MOST_TURNS && waiting != 0 && !barren; turn++) {
                 int pair = turn % MOST_PAIRS;
                 if ((waiting >> pair & 1) != 0) {
@@ -745,10 +746,14 @@ public final class OutcropAges {
 
         /** Composes what is left of x to y with all that goes on from either: the pairs (bits) that changed. */
         private int spread(int x, int y) {
+            if (x >= events || y >= events || at(x, y) == ALL) {
+                return 0;
+            }
             int changed = 0;
             for (int z = 0; z < events && !barren; z++) {
                 if (z != x && z != y) {
-                    changed |= narrow(x, y, z) | narrow(y, x, z);
+                    changed |= narrow(x, y, z);
+                    changed |= barren ? 0 : narrow(y, x, z);
                 }
             }
             return changed;
@@ -764,7 +769,9 @@ public final class OutcropAges {
             if (has == had) {
                 return 0;
             }
-            put(x, z, has);
+            sets[x * MOST_EVENTS + z] = has;
+            sets[z * MOST_EVENTS + x] = algebra.turn(has);
+            barren = has == 0;
             return 1 << pairOf(Math.min(x, z), Math.max(x, z));
         }
     }
@@ -784,8 +791,8 @@ public final class OutcropAges {
         private static final int[] END_ZONE = {4, 4, 4, 4, 4, 3, 3, 3, 2, 2, 2, 1, 0};
 
         private final Net net;
-        /** What is left while an event is put, those ahead of it being there. */
-        private final Net[] stages = new Net[MOST_EVENTS];
+        /** What is left of x to z, while an event is put: at x * MOST_EVENTS + z of the event's row. */
+        private final int[][] stages = new int[MOST_EVENTS][MOST_EVENTS * MOST_EVENTS];
         private final int[] begins = new int[MOST_EVENTS];
         private final int[] ends = new int[MOST_EVENTS];
         private final int[] chosen = new int[MOST_PAIRS];
@@ -799,9 +806,6 @@ public final class OutcropAges {
 
         Line(Net net, int most) {
             this.net = net;
-            for (int y = 0; y < MOST_EVENTS; y++) {
-                stages[y] = y < 2 ? net : new Net(net.algebra);
-            }
             found = new long[Math.max(1, most)];
         }
 
@@ -810,14 +814,13 @@ public final class OutcropAges {
             foundAll = false;
         }
 
-        /** Finds the histories of the net, the first ones up to a number: how many. */
+        /** Finds the first histories of the net, most at most: how many. */
         int find(int most) {
+            size = 0;
             wanted = Math.min(most, found.length);
-            if (size < wanted && !foundAll) {
-                dropAll();
-                foundAll = !search(0, 0, 1, LAST - 1, 1, LAST - 1);
-            }
-            return Math.min(size, wanted);
+            System.arraycopy(net.sets, 0, stages[0], 0, net.sets.length);
+            foundAll = !search(0, 0, 1, LAST - 1, 1, LAST - 1);
+            return size;
         }
 
         /**
@@ -833,7 +836,7 @@ public final class OutcropAges {
                 place(y, b1, b2, e1, e2);
                 return leavesRoom(y) && search(y + 1, 0, 1, LAST - 1, 1, LAST - 1);
             }
-            int set = stages[y].at(x, y);
+            int set = stages[y][x * MOST_EVENTS + y];
             for (int r = 0; r < RELATIONS; r++) {
                 if ((set >> r & 1) != 0) {
                     int c1 = Math.max(b1, zoneStart(x, BEGIN_ZONE[r]));
@@ -893,25 +896,33 @@ public final class OutcropAges {
             }
         }
 
-        /** Closes what is left of the events behind y, now that y is there, so that few ways end in nothing. */
+        /** Whether y, being there, leaves something of all that are there to those behind it. */
         private boolean leavesRoom(int y) {
             int following = y + 1;
-            if (y == 0 || following >= net.events || following >= MOST_EVENTS) {
+            if (following >= net.events || following >= MOST_EVENTS) {
                 return true;
             }
-            Net stage = stages[following];
-            stage.copyFrom(stages[y]);
-            int changed = 0;
-            for (int x = 0; x < y; x++) {
-                int pair = pairOf(x, y);
-                int one = 1 << chosen[pair];
-                if (stage.at(x, y) != one) {
-                    stage.hold(x, one, y);
-                    changed |= 1 << pair;
+            int[] stage = stages[following];
+            System.arraycopy(stages[y], 0, stage, 0, stage.length);
+            for (int z = following; z < net.events; z++) {
+                if (narrow(stage, y, z) == 0) {
+                    return false;
                 }
             }
-            stage.closeAgain(changed);
-            return !stage.barren;
+            return true;
+        }
+
+        /** Composes what all that are there have to y with what is left to z, so that few ways end in nothing. */
+        private int narrow(int[] stage, int y, int z) {
+            int set = stage[y * MOST_EVENTS + z];
+            for (int x = 0; x < y; x++) {
+                set &= net.algebra.composeOne(RELATIONS - 1 - chosen[pairOf(x, y)], stage[x * MOST_EVENTS + z]);
+            }
+            stage[y * MOST_EVENTS + z] = set;
+            for (int x = 0; x < y; x++) {
+                stage[x * MOST_EVENTS + z] &= net.algebra.composeOne(chosen[pairOf(x, y)], set);
+            }
+            return set;
         }
 
         private void write() {
@@ -998,7 +1009,7 @@ public final class OutcropAges {
         Net closedNet() {
             if (!closedIsKnown) {
                 closed.tell(book, 0);
-                closed.close();
+                closed.close(ALL_PAIRS);
                 line.dropAll();
                 closedIsKnown = true;
             }
@@ -1008,66 +1019,58 @@ public final class OutcropAges {
         /** How many histories there are, most at most; the line has them then. */
         int findHistories(int most) {
             closedNet();
-            return line.find(most);
+            if (line.size < most && !line.foundAll) {
+                line.find(most);
+            }
+            return Math.min(line.size, most);
         }
 
         Net reallyNet() {
-            if (!reallyIsKnown) {
-                findReally();
-                reallyIsKnown = true;
+            if (reallyIsKnown) {
+                return really;
+            }
+            reallyIsKnown = true;
+            really.empty();
+            if (findHistories(1) == 0) {
+                return really;
+            }
+            mark(line);
+            for (int pair = 0; pair < pairsOf(book.events); pair++) {
+                for (int r = 0; r < RELATIONS; r++) {
+                    tryRelation(LOWER[pair], r, HIGHER[pair]);
+                }
             }
             return really;
         }
 
-        private void findReally() {
-            really.empty();
-            if (findHistories(1) == 0) {
-                return;
-            }
-            for (int x = 0; x < book.events; x++) {
-                really.put(x, x, SAME);
-            }
-            mark(line);
-            for (int pair = 0; pair < pairsOf(book.events); pair++) {
-                int x = LOWER[pair];
-                int y = HIGHER[pair];
-                for (int r = 0; r < RELATIONS; r++) {
-                    int one = 1 << r;
-                    if ((closed.at(x, y) & one) != 0 && (really.at(x, y) & one) == 0) {
-                        tryRelation(pair, one);
-                    }
+        /** Looks for a history in which x has r to y, if none was found yet, and composing leaves it. */
+        private void tryRelation(int x, int r, int y) {
+            int one = 1 << r;
+            if ((closed.at(x, y) & ~really.at(x, y) & one) != 0) {
+                trial.copyFrom(closed);
+                trial.put(x, y, one);
+                trial.close(1 << pairOf(x, y));
+                if (trialLine.find(1) > 0) {
+                    mark(trialLine);
                 }
-            }
-        }
-
-        private void tryRelation(int pair, int one) {
-            trial.copyFrom(closed);
-            trial.hold(LOWER[pair], one, HIGHER[pair]);
-            trial.closeAgain(1 << pair);
-            if (trialHasHistory()) {
-                mark(trialLine);
             }
         }
 
         /** What every two have in a history that was found, they have really. */
         private void mark(Line from) {
-            for (int pair = 0; pair < pairsOf(book.events); pair++) {
-                int x = LOWER[pair];
-                int y = HIGHER[pair];
-                really.put(x, y, really.at(x, y) | 1 << from.relation(0, x, y));
+            for (int y = 0; y < book.events; y++) {
+                really.put(y, y, SAME);
+                for (int x = 0; x < y; x++) {
+                    really.put(x, y, really.at(x, y) | 1 << from.relation(0, x, y));
+                }
             }
-        }
-
-        private boolean trialHasHistory() {
-            trialLine.dropAll();
-            return trialLine.find(1) > 0;
         }
 
         /** Whether there is a history without these observations (bits); the trial's line has the first then. */
         private boolean hasHistoryWithout(int gone) {
             trial.tell(book, gone);
-            trial.close();
-            return trialHasHistory();
+            trial.close(ALL_PAIRS);
+            return trialLine.find(1) > 0;
         }
 
         int quarrel() {
@@ -1109,26 +1112,12 @@ public final class OutcropAges {
                         trial.hold(x, BEGINS_NO_LATER, y);
                     }
                 }
-                trial.close();
-                if (trialHasHistory()) {
+                trial.close(ALL_PAIRS);
+                if (trialLine.find(1) > 0) {
                     events |= 1 << x;
                 }
             }
             return events;
-        }
-
-        int mostOpenPair() {
-            reallyNet();
-            int best = NONE;
-            int most = 1;
-            for (int pair = 0; pair < pairsOf(book.events); pair++) {
-                int open = Integer.bitCount(really.at(LOWER[pair], HIGHER[pair]));
-                if (open > most) {
-                    most = open;
-                    best = 10 * LOWER[pair] + HIGHER[pair];
-                }
-            }
-            return best;
         }
 
         /** The observations (bits) each of which, being gone, leaves a history in which all that was seen is so. */
