@@ -434,7 +434,8 @@ public final class OutcropAges {
     private static final class Reader {
         private static final int ENDED = 0, ROW = 1, NUMBER = 2, SEMICOLON = 3, OTHER = 4;
         private static final int AT_FAULT = -10;
-        private static final int MOST_NUMBER = 9999;
+        /** For all numbers that can stand nowhere. */
+        private static final int TOO_HIGH = 10000;
 
         private final Book book = new Book();
         private final int[] text;
@@ -588,15 +589,11 @@ public final class OutcropAges {
             return letter == ';' ? SEMICOLON : OTHER;
         }
 
-        /** A number that is too high, or has a 0 ahead of others, can stand nowhere: then the token is no number. */
         private void readValue() {
             value = 0;
             for (int at = place; at < behind && at < length; at++) {
-                value = Math.min(value * 10 + text[at] - '0', MOST_NUMBER + 1);
-            }
-            boolean zeroAhead = behind - place > 1 && kindAt(place) == NUMBER && text[place] == '0';
-            if (value > MOST_NUMBER || zeroAhead) {
-                kind = OTHER;
+                boolean zeroAhead = value == 0 && at > place;
+                value = zeroAhead ? TOO_HIGH : Math.min(value * 10 + text[at] - '0', TOO_HIGH);
             }
         }
     }
@@ -648,13 +645,17 @@ public final class OutcropAges {
         }
 
         int turn(int set) {
-            return low[TURNING * LOW_SETS + (set & LOW_SETS - 1)] | high[TURNING * HIGH_SETS + (set >> LOW_BITS & HIGH_SETS - 1)];
+            return low[TURNING * LOW_SETS + (set & LOW_SETS - 1)]
+                | high[TURNING * HIGH_SETS + (set >> LOW_BITS & HIGH_SETS - 1)];
         }
 
+        /** A relation, then one of a set. */
         int composeOne(int r, int set) {
-            return low[r * LOW_SETS + (set & LOW_SETS - 1)] | high[r * HIGH_SETS + (set >> LOW_BITS & HIGH_SETS - 1)];
+            return low[r * LOW_SETS + (set & LOW_SETS - 1)]
+                | high[r * HIGH_SETS + (set >> LOW_BITS & HIGH_SETS - 1)];
         }
 
+        /** One of a set, then one of another. */
         int compose(int first, int second) {
             int lowPart = second & LOW_SETS - 1;
             int highPart = second >> LOW_BITS & HIGH_SETS - 1;
@@ -786,7 +787,10 @@ public final class OutcropAges {
     private static final class Line {
         private static final int LAST = 243;
         private static final int BITS = 4, ONE = 15;
-        /** Where y begins and ends, if x has this relation to it: 0 ahead of x, 1 at its begin, 2 in it, 3 at its end, 4 behind. */
+        /**
+         * The zones in which y begins and ends, if x has this relation to it: 0 ahead of x, 1 as x begins,
+         * 2 within x, 3 as x ends, 4 behind x.
+         */
         private static final int[] BEGIN_ZONE = {4, 3, 2, 1, 0, 0, 1, 2, 2, 1, 0, 0, 0};
         private static final int[] END_ZONE = {4, 4, 4, 4, 4, 3, 3, 3, 2, 2, 2, 1, 0};
 
@@ -824,8 +828,10 @@ public final class OutcropAges {
         }
 
         /**
-         * Puts y so that it has to x, and to all behind it, what the net leaves, beginning between the
-         * first two numbers and ending between the last two. Whether all that is wanted is found.
+         * Puts y so that it has to x, and to all behind it, what is left, beginning between the first two
+         * numbers and ending between the last two. Whether all that is wanted is found.
+         *
+         * No relation lets y begin where it ends, or behind that, so the two places need no look at each other.
          */
         private boolean search(int y, int x, int b1, int b2, int e1, int e2) {
             if (y >= net.events || y >= MOST_EVENTS) {
@@ -843,7 +849,7 @@ public final class OutcropAges {
                     int c2 = Math.min(b2, zoneEnd(x, BEGIN_ZONE[r]));
                     int f1 = Math.max(e1, zoneStart(x, END_ZONE[r]));
                     int f2 = Math.min(e2, zoneEnd(x, END_ZONE[r]));
-                    if (c1 <= c2 && f1 <= f2 && c1 < f2) {
+                    if (c1 <= c2 && f1 <= f2) {
                         chosen[pairOf(x, y)] = r;
                         if (search(y, x + 1, c1, c2, f1, f2)) {
                             return true;

@@ -195,12 +195,45 @@ public final class ModelTest {
         asksAll();
     }
 
+    /** Five events with so many observations: all that composing leaves. */
+    private void closes() {
+        types("events 5;");
+        due("tells()", real.tells(), model.tells());
+        for (int k = 0; k < 8; k++) {
+            int x = random.nextInt(5), y = random.nextInt(5), set = set();
+            due("adds(" + x + ", " + set + ", " + y + ")", real.adds(x, set, y), model.adds(x, set, y));
+        }
+        for (int i = 0; i < 25; i++) {
+            due("left(" + i / 5 + ", " + i % 5 + ", 1)", real.left(i / 5, i % 5, 1), model.left(i / 5, i % 5, 1));
+        }
+    }
+
+    /** A row of tokens, most of which can't stand where they are. */
+    private void reads() {
+        String[] tokens = {"events", "a", "b", "c", "d", "e", "f", "ab", ";", ";", ";", " ", "  ", "before", "with", "same",
+            "0", "1", "2", "5", "6", "07", "8191", "8192", "9999", "10000", "A", "-", "events 5;", "a same b;", "b 7 a;", "c1b"};
+        StringBuilder text = new StringBuilder();
+        int many = 1 + random.nextInt(14);
+        for (int i = 0; i < many; i++) {
+            text.append(random.nextInt(4) == 0 ? tokens[random.nextInt(tokens.length)] : tokens[28 + random.nextInt(4)]);
+            if (random.nextInt(3) == 0) text.append(' ');
+        }
+        text.setLength(Math.min(text.length(), 160));
+        types(text.toString());
+        due("tells()", real.tells(), model.tells());
+        for (int what = 0; what < 5; what++) due("count(" + what + ")", real.count(what), model.count(what));
+    }
+
     public static void main(String[] args) {
         int runs = args.length > 0 ? Integer.parseInt(args[0]) : 400;
         long start = args.length > 1 ? Long.parseLong(args[1]) : 0;
         for (int i = 0; i < runs && wrong < 5; i++) {
             new ModelTest(start + i).run(2 + i % 3, 400);
             if (i % 20 == 0) new ModelTest(start + i).run(5, 160);
+            for (int j = 0; j < 20; j++) {
+                new ModelTest(start + 20 * i + j).closes();
+                new ModelTest(start + 20 * i + j).reads();
+            }
         }
         System.out.println(answers + " answers of the class and of the model, " + wrong + " of them differ");
         if (wrong != 0) System.exit(1);

@@ -151,6 +151,15 @@ public final class PromisesTest {
         faultAt(2, "a b;");
         faultAt(2, "a events b;");
         faultAt(2, "a befor b;");
+        faultAt(2, "a tame b;");
+        faultAt(2, "a samf b;");
+        faultAt(0, "avents 3;");
+        faultAt(0, "az same b;");
+        faultAt(1, "a{ same b;");
+        faultAt(1, "a` same b;");
+        faultAt(3, "a 1: b;");
+        faultAt(3, "a 1/ b;");
+        faultAt(5, "a 9 b9;");
         faultAt(2, "a beforeb;");
         faultAt(2, "a 0 b;");
         faultAt(2, "a 8192 b;");

@@ -1,4 +1,6 @@
 import java.io.IOException;
+import java.io.PrintWriter;
+import java.io.StringWriter;
 import java.lang.management.ManagementFactory;
 import java.lang.reflect.Constructor;
 import java.lang.reflect.Field;
@@ -9,10 +11,13 @@ import java.nio.file.Path;
 import java.util.ArrayList;
 import java.util.Arrays;
 import java.util.List;
+import java.util.Map;
 import java.util.Set;
+import java.util.TreeMap;
 import java.util.TreeSet;
 import java.util.regex.Matcher;
 import java.util.regex.Pattern;
+import java.util.spi.ToolProvider;
 
 /** The rules of LANGUAGE.md that can be looked at from outside, and that no call makes an object. */
 public final class RulesTest {
@@ -111,6 +116,47 @@ public final class RulesTest {
         rule("every method ends", start < 0);
     }
 
+    /** Which methods each method calls, by the bytecode; names alone, as no class has two methods of one name. */
+    private static Map<String, Set<String>> calls() {
+        Map<String, Set<String>> calls = new TreeMap<>();
+        for (Class<?> c : classes()) {
+            StringWriter out = new StringWriter();
+            ToolProvider.findFirst("javap").orElseThrow().run(new PrintWriter(out), new PrintWriter(System.out),
+                "-c", "-p", "-cp", System.getProperty("java.class.path"), c.getName());
+            String caller = "";
+            for (String line : out.toString().split("\n")) {
+                Matcher method = Pattern.compile("^  \\S.*?([\\w$]+)\\(.*\\);$").matcher(line);
+                Matcher call = Pattern.compile("invoke\\w+.*// (?:Interface)?Method (?:([\\w$/]+)\\.)?\"?([\\w<>]+)\"?:").matcher(line);
+                if (method.find()) {
+                    String name = method.group(1).equals(c.getName()) ? "<init>" : method.group(1);
+                    caller = c.getName() + "." + name;
+                    calls.putIfAbsent(caller, new TreeSet<>());
+                } else if (call.find()) {
+                    calls.get(caller).add((call.group(1) == null ? c.getName() : call.group(1)) + "." + call.group(2));
+                }
+            }
+        }
+        return calls;
+    }
+
+    private static int depth(String method, Map<String, Set<String>> calls, int open) {
+        rule("only search calls itself, but " + method, open < 50);
+        int most = 0;
+        for (String called : calls.getOrDefault(method, Set.of())) {
+            if (!called.equals(method) && open < 50) most = Math.max(most, depth(called, calls, open + 1));
+        }
+        return most + 1;
+    }
+
+    private static void depths() {
+        Map<String, Set<String>> calls = calls();
+        rule("all methods are found", calls.size() > 60);
+        for (String method : calls.keySet()) {
+            int depth = depth(method, calls, 0);
+            rule("at most eight deep, but " + depth + ": " + method, depth <= 8);
+        }
+    }
+
     /** Calls of every kind, on a net of five that has to be looked through. */
     private static int use(OutcropAges x) {
         int sum = 0;
@@ -146,6 +192,7 @@ public final class RulesTest {
         face();
         members();
         source();
+        depths();
         room();
         System.out.println(wrong == 0 ? "the rules hold" : wrong + " rules are broken");
         if (wrong != 0) System.exit(1);
