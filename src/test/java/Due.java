@@ -3,6 +3,7 @@ import java.nio.file.Files;
 import java.nio.file.Path;
 import java.util.ArrayList;
 import java.util.List;
+import java.util.function.Supplier;
 import java.util.function.ToIntFunction;
 
 /** What the tests of the boundary cases share: which sentence is looked at, and what is due of it. */
@@ -99,6 +100,11 @@ final class Due {
 
     /** An object in which everything is full: text, observations, seen, undone, images. */
     static OutcropAges full() {
+        return fullWith("events 5; e same a;" + " ".repeat(141));
+    }
+
+    /** The same with another text, which need not be full. */
+    static OutcropAges fullWith(String text) {
         OutcropAges x = told("events 4; a 8190 b; b 4095 c; c with d;");
         x.keep(0);
         x.turns(0, 8188);
@@ -107,8 +113,7 @@ final class Due {
         x.takes(1);
         x.adds(3, 8000, 1);
         for (int i = 0; i < 6; i++) x.sees(0, i % 2, 1 + i % 3);
-        type(x, "events 5; e same a;");
-        while (x.count(3) < 160) x.type(32);
+        type(x, text);
         return x;
     }
 
@@ -122,23 +127,35 @@ final class Due {
         return x;
     }
 
-    /** All that an object can still tell, with what it would undo, bring back and read; it is used up by that. */
-    static List<Integer> allOf(OutcropAges x) {
+    /**
+     * All that an object can still tell, with what it would undo, bring back and read. Each part is asked of an
+     * object of its own, as what an object answers behind its 512th call is free.
+     */
+    static List<Integer> allOf(Supplier<OutcropAges> made) {
         List<Integer> all = new ArrayList<>();
-        askAll(x, all);
+        askAll(made.get(), all);
+        OutcropAges undone = made.get();
         for (int i = 0; i < 10; i++) {
-            all.add(x.undo());
-            askObservations(x, all);
+            all.add(undone.undo());
+            askObservations(undone, all);
         }
         for (int image = 0; image < 2; image++) {
-            all.add(x.back(image));
-            askObservations(x, all);
+            OutcropAges brought = made.get();
+            all.add(brought.back(image));
+            askObservations(brought, all);
+            all.add(brought.undo());
         }
-        all.add(x.forget());
-        all.add(x.tells());
-        askAll(x, all);
-        all.add(x.clear());
+        OutcropAges read = made.get();
+        all.add(read.forget());
+        all.add(read.tells());
+        askAll(read, all);
+        all.add(read.clear());
         return all;
+    }
+
+    /** Two kinds of objects are alike in all that they can tell. */
+    static void alike(String name, Supplier<OutcropAges> used, Supplier<OutcropAges> other) {
+        due("all, " + name, allOf(used), allOf(other));
     }
 
     private static void askObservations(OutcropAges x, List<Integer> all) {
@@ -159,15 +176,28 @@ final class Due {
         all.add(x.next());
     }
 
+    /** The kinds of objects on which calls are tried that change nothing. */
+    static List<Supplier<OutcropAges>> kinds() {
+        return List.of(OutcropAges::new, Due::full, Due::quarrelling);
+    }
+
+    /** An object of a kind, behind a call. */
+    static Supplier<OutcropAges> behind(Supplier<OutcropAges> kind, ToIntFunction<OutcropAges> call) {
+        return () -> {
+            OutcropAges x = kind.get();
+            call.applyAsInt(x);
+            return x;
+        };
+    }
+
     /** A call answers this on objects of three kinds (new, full, quarrelling), and changes nothing of them. */
     static void unchanged(String name, ToIntFunction<OutcropAges> call, int ofNew, int ofFull, int ofQuarrelling) {
-        OutcropAges[] used = {new OutcropAges(), full(), quarrelling()};
-        OutcropAges[] same = {new OutcropAges(), full(), quarrelling()};
         int[] want = {ofNew, ofFull, ofQuarrelling};
-        String[] kinds = {"of a new object", "of a full one", "of one that quarrels"};
+        String[] names = {" of a new object", " of a full one", " of one that quarrels"};
         for (int i = 0; i < 3; i++) {
-            due(name + " " + kinds[i], call.applyAsInt(used[i]), want[i]);
-            due("all, behind " + name + " " + kinds[i], allOf(used[i]), allOf(same[i]));
+            Supplier<OutcropAges> kind = kinds().get(i);
+            due(name + names[i], call.applyAsInt(kind.get()), want[i]);
+            alike("behind " + name + names[i], behind(kind, call), kind);
         }
     }
 

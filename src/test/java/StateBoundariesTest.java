@@ -18,7 +18,7 @@ public final class StateBoundariesTest {
         Due.due("unseen()", x.unseen(), 0);
         Due.due("wrong(0)", x.wrong(0), 0);
         Due.due("wrong(1)", x.wrong(1), 0);
-        Due.due("all of two new ones", Due.allOf(new OutcropAges()), Due.allOf(new OutcropAges()));
+        Due.alike("of two new ones", OutcropAges::new, OutcropAges::new);
         OutcropAges other = Due.full();
         Due.due("one beside a full one", new OutcropAges().count(1) + other.count(1), 8);
     }
@@ -165,9 +165,8 @@ public final class StateBoundariesTest {
         Due.due("one more", x.count(4), 1);
         Due.sentence("UNDONE: how many more may be. STATE: none.");
         Due.due("undo() of one", x.undo(), 0);
-        OutcropAges none = Due.told("a 1 b;");
-        Due.due("undo() of none", none.undo(), Due.STATE);
-        Due.due("all, behind undo() of none", Due.allOf(none), Due.allOf(Due.told("a 1 b;")));
+        Due.due("undo() of none", Due.told("a 1 b;").undo(), Due.STATE);
+        Due.alike("behind undo() of none", Due.behind(() -> Due.told("a 1 b;"), OutcropAges::undo), () -> Due.told("a 1 b;"));
         OutcropAges full = Due.full();
         for (int left = 7; left >= 0; left--) Due.due("undo() of a full one", full.undo(), left);
         Due.due("undo() of a full one", full.undo(), Due.STATE);
@@ -196,9 +195,8 @@ public final class StateBoundariesTest {
             int same = e;
             Due.bad("sees(" + e + ", 6, " + e + ")", z -> z.sees(same, 6, same));
         }
-        OutcropAges full = Due.full();
-        Due.due("one more of a full one", full.sees(0, 5, 1), Due.FULL);
-        Due.due("all, behind one more", Due.allOf(full), Due.allOf(Due.full()));
+        Due.due("one more of a full one", Due.full().sees(0, 5, 1), Due.FULL);
+        Due.alike("behind one more", Due.behind(Due::full, z -> z.sees(0, 5, 1)), Due::full);
         Due.due("the first event that is none", Due.told("events 2;").sees(0, 1, 2), Due.BAD);
         Due.sentence("Nothing is SEEN: how much was.");
         Due.due("forget() of six", x.forget(), 6);
@@ -206,10 +204,12 @@ public final class StateBoundariesTest {
         Due.due("count(2)", x.count(2), 0);
         Due.due("room again", x.sees(0, 0, 1), 1);
         Due.due("forget() of one", x.forget(), 1);
-        OutcropAges forgot = Due.full();
-        forgot.forget();
-        for (int i = 0; i < 6; i++) forgot.sees(0, i % 2, 1 + i % 3);
-        Due.due("nothing else changes", Due.allOf(forgot), Due.allOf(Due.full()));
+        Due.alike("behind forget() and the same seen again", () -> {
+            OutcropAges forgot = Due.full();
+            forgot.forget();
+            for (int i = 0; i < 6; i++) forgot.sees(0, i % 2, 1 + i % 3);
+            return forgot;
+        }, Due::full);
     }
 
     private static void images() {
@@ -262,9 +262,8 @@ public final class StateBoundariesTest {
         Due.due("the told sets are new", x.left(0, 1, 0), 8191);
         Due.due("the histories are new", x.many(300), 300);
         for (int image : new int[] {-1, 2, Due.MIN, Due.MAX}) Due.bad("back(" + image + ")", y -> y.back(image));
-        OutcropAges other = Due.quarrelling();
-        Due.due("back(0), if 1 was kept alone", other.back(0), Due.STATE);
-        Due.due("all, behind back(0)", Due.allOf(other), Due.allOf(Due.quarrelling()));
+        Due.due("back(0), if 1 was kept alone", Due.quarrelling().back(0), Due.STATE);
+        Due.alike("behind back(0)", Due.behind(Due::quarrelling, y -> y.back(0)), Due::quarrelling);
         Due.due("back(1) of a new one", new OutcropAges().back(1), Due.STATE);
         OutcropAges undone = Due.told("a 1 b;");
         undone.keep(0);
@@ -306,12 +305,14 @@ public final class StateBoundariesTest {
         Due.due("BAD ahead of NONE, history's same", Due.quarrelling().history(0, 1, 1), Due.BAD);
         Due.due("BAD ahead of NONE, point", Due.quarrelling().point(5, 0), Due.BAD);
         Due.due("BAD ahead of NONE, point's end", Due.quarrelling().point(0, 2), Due.BAD);
-        OutcropAges full = Due.full();
-        Due.due("a full text", full.type(32), Due.FULL);
-        Due.due("full of observations", full.adds(0, 1, 1), Due.FULL);
-        Due.due("full of what was seen", full.sees(0, 3, 1), Due.FULL);
-        Due.due("it is that", full.turns(7, 8000), Due.STATE);
-        Due.due("all of a full one, behind these", Due.allOf(full), Due.allOf(Due.full()));
+        Due.alike("behind what is FULL or STATE", () -> {
+            OutcropAges full = Due.full();
+            Due.due("a full text", full.type(32), Due.FULL);
+            Due.due("full of observations", full.adds(0, 1, 1), Due.FULL);
+            Due.due("full of what was seen", full.sees(0, 3, 1), Due.FULL);
+            Due.due("it is that", full.turns(7, 8000), Due.STATE);
+            return full;
+        }, Due::full);
     }
 
     private static void asked(String name, ToIntFunction<OutcropAges> call) {

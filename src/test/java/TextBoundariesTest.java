@@ -1,3 +1,5 @@
+import java.util.function.Supplier;
+
 /** The boundary cases of the text: each sentence of the document's Terms, and of promises 2 to 4, that names one. */
 public final class TextBoundariesTest {
     private static final String EIGHT = "a1b;a2b;a3b;a4b;a5b;a6b;a7b;a8b;";
@@ -273,9 +275,7 @@ public final class TextBoundariesTest {
         Due.due("the last is still the last", x.tells(), -10 - 159);
         for (int letter : new int[] {-1, 256, 288, -224, Due.MIN, Due.MAX}) Due.bad("type(" + letter + ")", y -> y.type(letter));
         Due.due("type(0) of a full one", Due.full().type(0), Due.FULL);
-        OutcropAges full = Due.full();
-        full.type(97);
-        Due.due("all of a full one, behind a letter", Due.allOf(full), Due.allOf(Due.full()));
+        Due.alike("of a full one, behind a letter", Due.behind(Due::full, y -> y.type(97)), Due::full);
     }
 
     private static void clear() {
@@ -288,11 +288,7 @@ public final class TextBoundariesTest {
         Due.due("the first letter again", x.type(97), 1);
         Due.due("clear() of one", x.clear(), 1);
         Due.due("tells() of nothing", x.tells(), 0);
-        OutcropAges full = Due.full();
-        full.clear();
-        Due.type(full, "events 5; e same a;");
-        while (full.count(3) < 160) full.type(32);
-        Due.due("clear() changes nothing else", Due.allOf(full), Due.allOf(Due.full()));
+        Due.alike("behind clear(), as without a text", Due.behind(Due::full, OutcropAges::clear), () -> Due.fullWith(""));
     }
 
     private static void tells() {
@@ -307,16 +303,15 @@ public final class TextBoundariesTest {
         Due.sentence("-10 less FAULT: nothing changes.");
         Due.due("the least fault", Due.tells("#"), -10);
         Due.due("the last fault", Due.tells("a" + " ".repeat(159)), -170);
-        Due.unchanged("tells() of a fault", y -> {
-            int letters = y.clear();
-            Due.type(y, "events 2; b same a; events 2;");
-            int answer = y.tells();
-            if (y.clear() != 29) return 0;
-            // What was in the text ahead of it.
-            Due.type(y, letters == 160 ? "events 5; e same a;" : letters == 9 ? "a same b;" : "");
-            while (y.count(3) < letters) y.type(32);
-            return answer;
-        }, -30, -30, -30);
+        for (Supplier<OutcropAges> kind : Due.kinds()) {
+            Supplier<OutcropAges> faulty = Due.behind(kind, y -> {
+                int letters = y.clear();
+                Due.type(y, "events 2; b same a; events 2;");
+                return letters;
+            });
+            Due.due("tells() of a fault", faulty.get().tells(), -30);
+            Due.alike("behind tells() of a fault", Due.behind(faulty, OutcropAges::tells), faulty);
+        }
         OutcropAges mended = new OutcropAges();
         Due.type(mended, "a same b");
         Due.due("a text that ends too early", mended.tells(), -18);
@@ -327,11 +322,7 @@ public final class TextBoundariesTest {
     private static void readAnew() {
         Due.sentence("(Read anew: as told; nothing can be UNDONE, nothing SEEN, IMAGES are gone.)");
         for (String text : new String[] {"", "events 4; a 8190 b;", "events 2;"}) {
-            OutcropAges x = Due.full();
-            x.clear();
-            Due.type(x, text);
-            x.tells();
-            Due.due("all, read anew '" + text + "'", Due.allOf(x), Due.allOf(Due.told(text)));
+            Due.alike("read anew '" + text + "'", Due.behind(() -> Due.fullWith(text), OutcropAges::tells), () -> Due.told(text));
         }
         OutcropAges x = Due.full();
         x.tells();
