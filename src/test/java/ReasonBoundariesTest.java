@@ -196,6 +196,30 @@ public final class ReasonBoundariesTest {
         for (int r : new int[] {-1, 13, Due.MIN, Due.MAX}) Due.bad("turned(" + r + ")", y -> y.turned(r));
     }
 
+    /** A row of 0 to 4, one of 120. */
+    private static List<Integer> names(int way) {
+        List<Integer> left = new ArrayList<>(List.of(0, 1, 2, 3, 4));
+        List<Integer> names = new ArrayList<>();
+        for (int n = 5, rest = way; n > 0; rest /= n, n--) names.add(left.remove(rest % n));
+        return names;
+    }
+
+    /**
+     * The same is left if the events have other names, so that any two can be the last of which something goes, and by
+     * which something more goes.
+     */
+    private static void renamed(int way) {
+        List<Integer> names = names(way);
+        int[][] told = {{4, 1572, 1}, {1, 844, 0}, {4, 4112, 0}, {0, 2210, 2}};
+        int[] want = {64, 1560, 2210, 8191, 257, 780, 64, 3999, 8191, 132, 2210, 7998, 64, 8191, 8071, 8191, 8191, 8191, 64, 8191,
+            4112, 1056, 7231, 8191, 64};
+        OutcropAges x = Due.told("events 5;");
+        for (int[] t : told) x.adds(names.get(t[0]), t[1], names.get(t[2]));
+        for (int i = 0; i < 25; i++) {
+            Due.due("left of " + i / 5 + " to " + i % 5 + ", as " + names, x.left(names.get(i / 5), names.get(i % 5), 1), want[i]);
+        }
+    }
+
     private static void closed() {
         Due.sentence("till nothing more goes");
         OutcropAges chain = Due.told("events 5; d before e; c before d; b before c; a before b;");
@@ -205,6 +229,7 @@ public final class ReasonBoundariesTest {
         int[] want = {64, 2594, 371, 7999, 2047, 2186, 64, 31, 2075, 9, 6608, 7936, 64, 1536, 256, 8095, 6914, 12, 64, 2,
             8188, 4608, 16, 2048, 64};
         for (int i = 0; i < 25; i++) Due.due("left(" + i / 5 + ", " + i % 5 + ", 1)", four.left(i / 5, i % 5, 1), want[i]);
+        for (int way = 0; way < 120; way++) renamed(way);
         Due.sentence("(nothing is left anywhere, if nothing is left of any two)");
         String[] texts = {"events 5; a 1 b; a 2 b;", "events 5; d 1 e; e 1 d;", "events 5; a 1 b; b 1 c; c 1 a;",
             "events 5; c 64 d; d 64 e; c 1 e;"};
